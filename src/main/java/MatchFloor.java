@@ -7,6 +7,8 @@ public final class MatchFloor {
     private static final int MOST_AMOUNT = 99;
     private static final int LAST_OWNER = 5;
     private static final int LAST_PRICE = 300;
+    private static final int EVEN_FROM = 100;
+    private static final int FIVES_FROM = 200;
     private static final int MOST_BAND = 50;
     private static final int KEPT_TRADES = 50;
     // Each meeting trades at least 1 or cancels one order, so there are never more of them.
@@ -317,15 +319,21 @@ public final class MatchFloor {
     }
 
     private static boolean isPrice(int price) {
-        return price >= 1 && price <= LAST_PRICE && price % stepAt(price) == 0;
+        if (price < 1 || price > LAST_PRICE) {
+            return false;
+        }
+        if (price < EVEN_FROM) {
+            return true;
+        }
+        return price < FIVES_FROM ? price % 2 == 0 : price % 5 == 0;
     }
 
     // How far the next price stands from this one.
     private static int stepAt(int price) {
-        if (price < 100) {
+        if (price < EVEN_FROM) {
             return 1;
         }
-        return price < 200 ? 2 : 5;
+        return price < FIVES_FROM ? 2 : 5;
     }
 
     private Order knownOrder(int number) {
@@ -362,21 +370,21 @@ public final class MatchFloor {
     // ---- All orders ----
 
     private Order orderOf(int number) {
-        if (number < 0 || number >= came || number >= MOST_ORDERS) {
+        if (number < 0 || number >= came || number >= orders.length) {
             return null;
         }
         return orders[number];
     }
 
     private void keep(Order order) {
-        if (came < MOST_ORDERS) {
+        if (came < orders.length) {
             orders[came] = order;
             came++;
         }
     }
 
     private boolean isFull() {
-        return came >= MOST_ORDERS || countIn(ACTIVE) + countIn(WAITING) >= MOST_LIVE;
+        return came >= orders.length || countIn(ACTIVE) + countIn(WAITING) >= MOST_LIVE;
     }
 
     private int countIn(char state) {
@@ -396,50 +404,55 @@ public final class MatchFloor {
 
     // ---- Coming in ----
 
-    private void comeIn(Order order) {
-        order.state = ACTIVE;
-        meetOthers(order);
-        if (order.state == ACTIVE) {
-            order.showSlice();
-            sideOf(order).putIn(order);
-        }
-    }
-
-    private void meetOthers(Order incoming) {
-        BookSide otherSide = incoming.buys ? sellers : buyers;
+    private void comeIn(Order incoming) {
+        incoming.state = ACTIVE;
         for (int meeting = 0; meeting < MOST_MEETINGS; meeting++) {
-            Order resting = otherSide.first;
-            if (halted || incoming.state != ACTIVE) {
-                return;
+            Order resting = nextToMeet(incoming);
+            if (resting == null) {
+                break;
             }
-            if (resting == null || !otherSide.isAtLeast(resting.price, incoming.price)) {
-                return;
-            }
-            meet(incoming, resting, otherSide);
+            meet(incoming, resting);
+        }
+        if (incoming.state == ACTIVE) {
+            incoming.showSlice();
+            sideOf(incoming).putIn(incoming);
         }
     }
 
-    private void meet(Order incoming, Order resting, BookSide otherSide) {
+    // The order of the book that is met next, or null if there is none.
+    private Order nextToMeet(Order incoming) {
+        if (halted || incoming.state != ACTIVE) {
+            return null;
+        }
+        BookSide otherSide = incoming.buys ? sellers : buyers;
+        Order resting = otherSide.first;
+        if (resting == null || !otherSide.isAtLeast(resting.price, incoming.price)) {
+            return null;
+        }
+        return resting;
+    }
+
+    private void meet(Order incoming, Order resting) {
         if (incoming.owner == resting.owner) {
-            cancelOneOf(incoming, resting, otherSide);
+            cancelOneOf(incoming, resting);
         } else if (isWithinBand(resting.price)) {
             int amount = Math.min(incoming.left, resting.shown);
             Order buyer = incoming.buys ? incoming : resting;
             Order seller = incoming.buys ? resting : incoming;
             trade(buyer, seller, resting.price, amount);
             resting.shown -= amount;
-            otherSide.settle(resting);
+            sideOf(resting).settle(resting);
         } else {
             halted = true;
         }
     }
 
-    private void cancelOneOf(Order incoming, Order resting, BookSide otherSide) {
+    private void cancelOneOf(Order incoming, Order resting) {
         if (rule == CANCEL_INCOMING) {
             incoming.state = CANCELLED;
             return;
         }
-        otherSide.takeOut(resting);
+        sideOf(resting).takeOut(resting);
         resting.state = CANCELLED;
     }
 
@@ -637,9 +650,11 @@ public final class MatchFloor {
             }
         }
 
+        // Puts in order what a trade has left of an order of the book.
         void settle(Order order) {
-            dropIfFilled(order);
-            if (order.left > 0 && order.shown == 0) {
+            if (order.left == 0) {
+                takeOut(order);
+            } else if (order.shown == 0) {
                 order.showSlice();
                 takeOut(order);
                 putIn(order);

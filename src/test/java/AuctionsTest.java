@@ -14,6 +14,7 @@ public final class AuctionsTest {
         priceBehindGaps();
         allThatIsLeftCounts();
         stopsDoNotCount();
+        askedAgain();
         openFloor();
         ends();
         promise26VolumeAt();
@@ -117,6 +118,21 @@ public final class AuctionsTest {
         x.sendStop(1, 's', 20, 20, 9);
         noPrice("a stop to sell", x);
         checks.same("volume", x.volumeAt(25), 0);
+    }
+
+    private static void askedAgain() {
+        MatchFloor x = halted(new int[] {'b', 30, 9}, new int[] {'s', 20, 9}, new int[] {'s', 25, 4});
+        checks.same("by sums", x.auctionPrice(), 20);
+        x.reduce(1, 3);
+        checks.same("by sums with less volume", x.auctionPrice(), 25);
+        x.cancel(0);
+        checks.noSuch("by sums with none", () -> x.auctionPrice());
+        MatchFloor y = halted(new int[] {'b', 30, 9}, new int[] {'s', 20, 9}, new int[] {'s', 25, 4});
+        checks.same("by trying", y.auctionPriceByTrying(), 20);
+        y.reduce(1, 3);
+        checks.same("by trying with less volume", y.auctionPriceByTrying(), 25);
+        y.cancel(0);
+        checks.noSuch("by trying with none", () -> y.auctionPriceByTrying());
     }
 
     private static void openFloor() {

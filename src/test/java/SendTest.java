@@ -26,6 +26,7 @@ public final class SendTest {
         promise02RuleR();
         promise02RuleI();
         promise02RuleAfterTrades();
+        promise02ManyMeetings();
         promise02BandStops();
         promise02BandEdge();
         promise02BandLooksAtLatestTrade();
@@ -293,6 +294,20 @@ public final class SendTest {
         x.send(0, 's', 20, 2, 2);
         checks.same("a traded one is cancelled with what is left", Look.order(x, 1), "c 3 0.25");
         checks.same("the other one comes into the book", Look.order(x, 4), "a 2/2 0.0");
+    }
+
+    private static void promise02ManyMeetings() {
+        MatchFloor x = new MatchFloor();
+        for (int i = 0; i < 58; i++) {
+            x.send(0, 's', 1 + i, 99, 1);
+        }
+        x.send(1, 's', 300, 99, 1);
+        checks.same("the sixtieth order", x.send(0, 'b', 300, 99, 99), 59);
+        checks.same("traded with all slices of the other one", x.tradeCount(), 99);
+        checks.same("filled", "" + x.stateOf(58) + x.stateOf(59), "ff");
+        checks.same("all own orders are cancelled", "" + x.stateOf(0) + x.stateOf(57), "cc");
+        checks.same("none to sell", x.levels('s'), 0);
+        checks.same("none to buy", x.levels('b'), 0);
     }
 
     /** A floor with the given band on which one trade was made, at the price. */

@@ -22,6 +22,7 @@ public final class StopsTest {
         promise03AfterAuction();
         promise03ReducedStop();
         promise03OwnOrders();
+        promise03AllStopsAtOnce();
         checks.end();
     }
 
@@ -267,5 +268,17 @@ public final class StopsTest {
         y.send(2, 'b', 2, 1, 1);
         checks.same("by the rule 'i' the other one stays", y.stateOf(2), 'a');
         checks.same("and the stop is cancelled", Look.order(y, 3), "c 9 0.0");
+    }
+
+    private static void promise03AllStopsAtOnce() {
+        MatchFloor x = traded(20);
+        for (int i = 0; i < 59; i++) {
+            x.sendStop(i % 3, 'b', 1, 60 - i, 1);
+        }
+        x.send(3, 's', 1, 99, 99);
+        checks.same("none waits", x.waiting(), 0);
+        checks.same("each one traded", x.tradeCount(), 60);
+        checks.same("the last one", Look.trade(x, 0), "1@1 b60 s61");
+        checks.same("one by one", Look.trade(x, 49), "1@1 b11 s61");
     }
 }
