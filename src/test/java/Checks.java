@@ -20,6 +20,10 @@ final class Checks {
         report(what, got.equals(due), got, due);
     }
 
+    void same(String what, boolean got, boolean due) {
+        report(what, got == due, String.valueOf(got), String.valueOf(due));
+    }
+
     void holds(String what, boolean got) {
         report(what, got, "false", "true");
     }

@@ -13,11 +13,12 @@ final class Look {
             text.append("\norder ").append(order).append(' ').append(order(floor, order));
         }
         text.append(side(floor, 'b')).append(side(floor, 's'));
-        text.append("\nauction ").append(auction(floor)).append("\ntrades ").append(floor.tradeCount());
+        text.append("\nspread ").append(spread(floor)).append(" auction ").append(auction(floor));
+        text.append(" by trying ").append(auctionByTrying(floor)).append("\ntrades ").append(floor.tradeCount());
         for (int rank = 0, kept = Math.min(50, floor.tradeCount()); rank < kept; rank++) {
             text.append(' ').append(trade(floor, rank));
         }
-        return text.append("\nvolume ").append(floor.volume()).toString();
+        return text.append("\nvolume ").append(floor.volume()).append(" mean ").append(mean(floor)).toString();
     }
 
     /** State, what is left, what is shown (if active) and the share: "a 7/3 0.25". */
@@ -46,6 +47,30 @@ final class Look {
         try {
             return String.valueOf(floor.auctionPrice());
         } catch (NoSuchElementException e) {
+            return "none";
+        }
+    }
+
+    private static String auctionByTrying(MatchFloor floor) {
+        try {
+            return String.valueOf(floor.auctionPriceByTrying());
+        } catch (NoSuchElementException e) {
+            return "none";
+        }
+    }
+
+    private static String spread(MatchFloor floor) {
+        try {
+            return String.valueOf(floor.spread());
+        } catch (NoSuchElementException e) {
+            return "none";
+        }
+    }
+
+    private static String mean(MatchFloor floor) {
+        try {
+            return String.valueOf(floor.meanPrice());
+        } catch (ArithmeticException e) {
             return "none";
         }
     }
